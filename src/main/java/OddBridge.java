@@ -340,15 +340,15 @@ public final class OddBridge {
     }
 
     private static boolean isSetOf(int set, int count) {
-        return set >= 0 && set < 1 << count;
+        return set >= 0 && set < (1 << count);
     }
 
     private static boolean holds(int set, int i) {
-        return (set >> i & 1) != 0;
+        return ((set >> i) & 1) != 0;
     }
 
     private boolean isWalker(int walker) {
-        return walker >= 0 && walker < scene.walkers;
+        return walker >= 0 && walker < scene.walkers && walker < MOST_WALKERS;
     }
 
     private Scene imageAt(int i) {
@@ -459,8 +459,9 @@ public final class OddBridge {
         private int sumBrought(int set, int what) {
             int sum = 0;
             for (int i = 0; i < walkers && i < MOST_WALKERS; i++) {
-                if (holds(set, i)) {
-                    sum += BROUGHT[kinds[i] * SORTS + what];
+                int at = kinds[i] * SORTS + what;
+                if (holds(set, i) && at >= 0 && at < BROUGHT.length) {
+                    sum += BROUGHT[at];
                 }
             }
             return sum;
@@ -818,13 +819,13 @@ public final class OddBridge {
 
         private int bestSteps(int minute) {
             int may = mayStep(minute);
-            int aheadOfWall = aheadOfWall(minute);
+            int side = aheadOfWall(minute);
             int best = NONE;
             for (int set = 0; set <= may; set++) {
                 boolean more = best == NONE || Integer.bitCount(set) > Integer.bitCount(best);
                 if (more && (set & ~may) == 0) {
-                    int ahead = (present ^ set) & aheadOfWall;
-                    int behindWall = (present ^ set) & ~aheadOfWall;
+                    int ahead = (present ^ set) & side;
+                    int behindWall = (present ^ set) & ~side;
                     best = judge.isWell(ahead, minute) && judge.isWell(behindWall, minute) ? set : best;
                 }
             }
@@ -894,7 +895,7 @@ public final class OddBridge {
                 return;
             }
             known = true;
-            int all = (1 << scene.walkers) - 1 & ALL;
+            int all = ((1 << scene.walkers) - 1) & ALL;
             for (int left = 1; left <= all; left++) {
                 lookAtCompany(left);
                 lookAtLeft(left);
@@ -1016,7 +1017,7 @@ public final class OddBridge {
 
         private int fewestLiars() {
             int liars = (1 << scene.said) - 1;
-            for (int set = 0; set < 1 << scene.said && set < SETS; set++) {
+            for (int set = 0; set < (1 << scene.said) && set < SETS; set++) {
                 if (Integer.bitCount(set) < Integer.bitCount(liars) && allWellBut(set)) {
                     liars = set;
                 }

@@ -4,6 +4,7 @@ public final class FeastTest {
 
     public static void main(String[] args) {
         evenFaces();
+        askedFirst();
         theMostThenTheLeast();
         whoDoesNotStepAgain();
         wall();
@@ -60,6 +61,15 @@ public final class FeastTest {
         Due.is("9: on(199)", late.on(199), 1);
         Due.is("10: stepped(0, 0)", late.stepped(0, 0), 199);
         Due.is("10: stepped(0, 1)", late.stepped(0, 1), -1);
+        late.erase();
+        Due.is("9: on(1) of another vow, as if nobody had been on", late.on(1), 0);
+        Due.is("9: on(0) of another vow", late.on(0), 1);
+    }
+
+    private static void askedFirst() {
+        Due.is("10: stepped(1, 1), asked first", Due.ofTimes(3, 2).stepped(1, 1), 5);
+        Due.is("11: faulty(0), asked first", Due.vow(Due.ofTimes(20), "m<1").faulty(0), 19);
+        Due.is("11: faulty(1), asked first of a new object", new OddBridge().faulty(1), -1);
     }
 
     /** Each side of the wall is looked at for itself; who is on goes from one to the other without a step. */

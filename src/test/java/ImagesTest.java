@@ -42,11 +42,31 @@ public final class ImagesTest {
         Due.is("24: doubt(1, 7)", x.doubt(1, 7), 7);
         Due.is("24: well(1, 0) by the vow of the image", x.well(1, 0), 0);
         Due.is("24: fault()", x.fault(), -1);
+        overwritten();
         Due.bad(x, "23: image(2)", () -> x.image(2));
         Due.bad(x, "23: image(-1)", () -> x.image(-1));
         Due.bad(x, "24: from(2)", () -> x.from(2));
         Due.bad(x, "24: from(-1)", () -> x.from(-1));
         Due.no(x, "24: from(0)", () -> x.from(0));
+    }
+
+    /** The image comes back whole, where its places held others meanwhile. */
+    private static void overwritten() {
+        OddBridge x = new OddBridge();
+        x.image(0);
+        x.walker(1, 2, 3);
+        x.say(0, 4, 5);
+        x.write('p');
+        x.image(1);
+        long digest = x.digest();
+        x.from(0);
+        x.walker(6, 7, 8);
+        x.say(0, 9, 10);
+        x.write('m');
+        x.from(1);
+        Due.is("24: digest() of the other image", x.digest(), digest);
+        Due.is("24: brings(1, 2)", x.brings(1, 2), 1);
+        Due.is("24: stepped(0, 1)", x.stepped(0, 1), 5);
     }
 
     private static void whatIsNotKept() {

@@ -78,6 +78,13 @@ public final class SaidTest {
         Due.is("21: and one alone makes it so", x.lied(0), 0);
         Due.vow(x, "0");
         Due.is("21: all lied", x.lied(1), 15);
+        OddBridge ends = Due.vow(Due.ofTimes(1, 1), "m>0");
+        ends.say(0, 0, 0);
+        ends.say(1, 1, 1);
+        Due.is("21: minute 0 is looked at", ends.lied(1), 1);
+        Due.vow(ends, "m<62");
+        ends.say(0, 62, 62);
+        Due.is("21: minute 62 is looked at", ends.lied(1), 4);
         Due.bad(x, "21: lied(2)", () -> x.lied(2));
         Due.bad(x, "21: lied(-1)", () -> x.lied(-1));
     }

@@ -166,6 +166,9 @@ public final class VowTest {
         oddOfAll("(999999*999999*999999*999999)<0", 1);
         oddOfAll("999999*999999*999999*999999", 1);
         oddOfAll("-p", 1);
+        oddOfAll("!p", 0);
+        oddOfAll("!0", 1);
+        oddOfAll(" ! !p", 1);
         oddOfAll("p+m", 0);
         oddOfAll("p+d", 1);
         oddOfAll("0-3", 1);
