@@ -958,7 +958,7 @@ public final class OddBridge {
         private void lineUp(int all) {
             int left = all;
             for (int i = 0; i < MOST_WALKERS && left > 0 && left < SETS; i++) {
-                int set = firsts[left];
+                int set = firsts[left] & ALL;
                 row[i] = beggars[set] == 1 ? set + WITH_BEGGAR : set;
                 left &= ~set;
                 companies++;

@@ -19,6 +19,8 @@ public final class VowEdgesTest {
         theFirstFault();
         faultsAsItIsWritten();
         faultLetsPeopleCount();
+        each();
+        asManySignsAsCanBe();
         truths();
         wraps();
         division();
@@ -295,6 +297,38 @@ public final class VowEdgesTest {
             x.say(1, 1, 2);
             Due.is("20: dispute(0) by \"" + text + "\"", x.dispute(0), 2);
         }
+    }
+
+    private static void each() {
+        bareValue("p", 7);
+        bareValue("b", 3);
+        bareValue("u", 3);
+        bareValue("d", 2);
+        bareValue("l", 3);
+        bareValue("m", 9);
+        bareValue("1", 1);
+        bareValue("-p", -7);
+        bareValue("!p", 0);
+        bareValue("!0", 1);
+        bareValue(" -p", -7);
+        bareValue("p+b+u+d+l+m", 27);
+    }
+
+    /** The text is full of signs that are worked: 39 ahead of one unit, 20 units with 19 between, at the last place too. */
+    private static void asManySignsAsCanBe() {
+        odd(times(39, "!") + "p", 0);
+        odd(times(38, "!") + "p", 1);
+        odd(times(39, "!") + "0", 1);
+        odd(times(39, "-") + "p", 1);
+        odd(times(36, "-") + "p=7", 1);
+        odd(times(35, "-") + "p=-7", 1);
+        odd(times(19, "1+") + "p", 0);
+        odd(times(19, "1-") + "1", 0);
+        odd(" " + times(19, "1+") + "p", 0);
+        odd(" " + times(19, "1*") + "7", 1);
+        odd(times(19, "0|") + " 1", 1);
+        odd(times(19, "1&") + " 0", 0);
+        odd("0|1&1<2+3*(0|1&1<2+3*(0|1&1<2+3*(0|1)))", 1);
     }
 
     private static void truths() {
