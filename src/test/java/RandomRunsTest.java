@@ -123,8 +123,8 @@ public final class RandomRunsTest {
     }
 
     private void ask() {
-        int set = number(0, Math.max(0, (1 << x.count(0)) - 1));
-        int but = number(0, Math.max(0, (1 << x.count(2)) - 1));
+        int set = number(0, Math.max(0, (1 << m.count(0)) - 1));
+        int but = number(0, Math.max(0, (1 << m.count(2)) - 1));
         int minute = number(0, 199);
         int walker = number(0, 7);
         int two = number(0, 1);
