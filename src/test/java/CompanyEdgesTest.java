@@ -173,6 +173,13 @@ public final class CompanyEdgesTest {
         least("one is left over in any case", y, 3, 10, 1, 10);
         OddBridge z = Due.vow(Due.ofTimes(1, 20, 1), "p=1|p=4");
         least("one by one costs nothing", z, 20, 3, 1, 0);
+        OddBridge w = new OddBridge();
+        w.walker(0, 1, 0);
+        w.walker(0, 9, 0);
+        w.walker(2, 9, 0);
+        Due.vow(w, "p=2|p=1&b=2");
+        least("the cheapest begins with more bits and is slower", w, 10, 3, 2, 0);
+        row("the cheapest begins with more bits and is slower", w, 257, 6);
     }
 
     private static void itCanNotBe() {

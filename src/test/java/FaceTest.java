@@ -59,6 +59,9 @@ public final class FaceTest {
         for (Field field : OddBridge.class.getDeclaredFields()) {
             if (!Modifier.isPrivate(field.getModifiers())) {
                 open.add(field.getName());
+                int due = Modifier.PUBLIC | Modifier.STATIC | Modifier.FINAL;
+                Due.is(field.getName() + " is a public constant", field.getModifiers(), due);
+                Due.is(field.getName() + " is an int", field.getType() == int.class ? 1 : 0, 1);
             }
             if (Modifier.isStatic(field.getModifiers())) {
                 Due.is(field.getName() + " is final", Modifier.isFinal(field.getModifiers()) ? 1 : 0, 1);

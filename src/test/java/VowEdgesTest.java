@@ -469,6 +469,9 @@ public final class VowEdgesTest {
         value("!1|1", 1);
         value("!0&0", 0);
         value("!(0&0)", 1);
+        odd("-(" + LEAST_LONG + ")/2<0", 1);
+        odd("-(" + LEAST_LONG + ")/2>0", 0);
+        odd("0-(" + LEAST_LONG + ")/2>0", 1);
     }
 
     /** One of each KIND: p 7, b 3, u 3, d 2, l 3. */
